@@ -49,7 +49,7 @@ public final class TaperTalk {
         tapeBytes = 0;
         fault = 0;
         faultPlace = NONE;
-        reader = new Reader();
+        reader = new Reader(tape);
         plan = new Night();
         acts = new Acts();
         slots = new Slots();
@@ -100,7 +100,7 @@ public final class TaperTalk {
     }
 
     public int night() {
-        Night read = reader.read(tape, tapeBytes);
+        Night read = reader.read(tapeBytes);
         fault = reader.fault;
         faultPlace = reader.place;
         // A refused TAPE is used up as well: the next one is fed from its beginning.
@@ -1100,15 +1100,18 @@ public final class TaperTalk {
         int fault;
         int place;
         private final Night draft = new Night();
-        private byte[] bytes;
+        private final byte[] bytes;
         private int length;
         private int start;
         private int next;
         private int token;
         private int value;
 
-        Night read(byte[] tape, int tapeLength) {
+        Reader(byte[] tape) {
             bytes = tape;
+        }
+
+        Night read(int tapeLength) {
             length = tapeLength;
             next = 0;
             fault = 0;
