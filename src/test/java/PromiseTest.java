@@ -138,6 +138,8 @@ public final class PromiseTest {
         fault("night law 0", 1, 6);
         fault("night hours law", 1, 12);
         fault("nighthours 3", 1, 0);
+        fault("nightz", 1, 0);
+        fault("nighta", 1, 0);
         fault("pew rest;", 1, 0);
         fault(";", 1, 0);
         fault("  7", 1, 2);
@@ -165,7 +167,10 @@ public final class PromiseTest {
         fault(BASE + " pew rest; light 1 1;", 2, 44);
         fault(BASE + " pew rest; light 0 0;", 2, 46);
         fault(BASE + " pew rest; light 0 1 2 3 4 1 2 3;", 3, 58);
+        fault(BASE + " pew rest; light 0 1 2 3 4 1 2 1;", 3, 58);
+        fault(BASE + " pew rest; light 0 1 2 3 4 1 2 4;", 3, 58);
         fault(BASE + " pew rest; light 0 1 2 3 4 1 2 5;", 2, 58);
+        fault(BASE + " pew rest; light 0 1 2 3 4 1 2 0;", 2, 58);
         fault(BASE + " pew rest; light 0 1 2 3 4 1 2 at;", 1, 58);
         String two = BASE + " pew rest; pew rest;";
         fault(two + " aisle 0 0;", 2, 56);
@@ -328,6 +333,8 @@ public final class PromiseTest {
         due(15, "in none", x.when(1), -1);
         due(16, "in none", x.often(1), 0);
         due(17, "not all", x.full(), -1);
+        due(17, "in the last one", Telling.told("night hours 1 law 0 odds 0; pew rest; pew rest; aisle 0 1; light 0 1;").full(), 1);
+        due(17, "in the first one", Telling.told("night hours 1 law 0 odds 0; pew rest; light 0 1; draught 0 at 1;").full(), 0);
         due(19, "from the first on", x.still(), 0);
         due(21, "two alike", x.alike(0, 2), 5);
         due(20, "two alike", x.sorts(2), 1);
@@ -620,6 +627,10 @@ public final class PromiseTest {
         due(41, "each", apart.fewest(), 3);
         due(42, "each", apart.sets(), 7);
         due(38, "the first of several", apart.best(), 0);
+        TaperTalk star = Telling.told("night hours 1 law 0 odds 0; pew rest; pew rest; pew rest; aisle 0 2; aisle 1 2;");
+        due(39, "0 and 1 light all, too", star.worth(3), 3);
+        due(41, "fewer than 0 and 1", star.fewest(), 1);
+        due(42, "fewer than 0 and 1", star.sets(), 4);
         TaperTalk loss = Telling.told("night hours 2 law 0 odds 0;pew rest;pew drop;pew rest;pew add 1;"
             + "aisle 0 1;aisle 1 3;aisle 2 3;draught 0 at 2;");
         due(40, "below 0 for what 0", Integer.signum(loss.share(0, 0)), -1);
