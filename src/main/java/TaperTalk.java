@@ -999,9 +999,9 @@ public final class TaperTalk {
             System.arraycopy(other.draughtHour, 0, draughtHour, 0, MOST_DRAUGHTS);
         }
 
-        void addPew() {
+        void addPew(int kind, int first, int second) {
             near[pews] = 0;
-            setRule(pews, Sayings.REST, 0, 0);
+            setRule(pews, kind, first, second);
             pews++;
         }
 
@@ -1172,8 +1172,7 @@ public final class TaperTalk {
                 second = needNumber(1, LETTERS);
             }
             if (fault == 0) {
-                draft.addPew();
-                draft.setRule(draft.pews - 1, rule, first, second);
+                draft.addPew(rule, first, second);
             }
         }
 

@@ -16,6 +16,7 @@ public final class EdgeActsTest {
         counts();
         images();
         imagesApart();
+        imageActs();
         imageRefusals();
         longUse();
         Edge.end("EdgeActsTest");
@@ -278,6 +279,32 @@ public final class EdgeActsTest {
         due(67, "the FAULT is no part of it", y.fault(0), 2);
     }
 
+    /** What is done behind an IMAGE does not come into it: an act's PEW, LETTER and HOUR are its own. */
+    private static void imageActs() {
+        String text = "night hours 2 law 0 odds 0;pew rest;pew rest;";
+        int[][] acts = {{0, 1, 0}, {1, 1, 0}, {0, 2, 0}, {0, 1, 2}, {1, 0, 1}};
+        for (int[] kept : acts) {
+            for (int[] later : acts) {
+                TaperTalk x = Telling.told(text + "light 0 3;light 1 4;");
+                act(x, kept);
+                int says = x.says(kept[0], kept[2], 0);
+                x.image(0);
+                x.anew();
+                act(x, later);
+                x.back(0);
+                due(67, "its act", x.says(kept[0], kept[2], 0), says);
+                due(67, "the LETTER of its act", x.says(kept[0], kept[2], 0), kept[1] == 0 ? -1 : kept[1]);
+                due(67, "the other PEW is as told", x.says(1 - kept[0], 2, 0), 4 - kept[0]);
+                if (kept[2] > 0) due(67, "the HOUR of its act", x.says(kept[0], kept[2] - 1, 0), 3 + kept[0]);
+            }
+        }
+    }
+
+    private static void act(TaperTalk x, int[] act) {
+        if (act[1] == 0) x.draught(act[0], act[2]);
+        else x.light(act[0], act[1], act[2]);
+    }
+
     private static void imageRefusals() {
         for (int k : Edge.outside(3)) {
             Edge.refused(66, "no such k: " + k, -2, x -> x.image(k));
@@ -290,10 +317,10 @@ public final class EdgeActsTest {
 
     private static void longUse() {
         TaperTalk x = Telling.told(Edge.FIVE);
-        for (int i = 0; i < 245; i++) {
+        for (int i = 0; i < 250; i++) {
             due(58, "act after act: 0, 1 and 4 say one LETTER", x.light(0, 1, 0), 3);
             due(60, "and taken back", x.undo(), 0);
         }
-        due(10, "not far from the 512th call", x.lit(5), 31);
+        due(10, "the 512th call", x.lit(5), 31);
     }
 }

@@ -256,6 +256,7 @@ public final class EdgeCourseTest {
         for (int h = 1; h <= 12; h++) due(22, "by turns in HOUR " + h, turns.depth(h % 2, h), h);
         due(29, "as deep as there are HOURS", turns.deepest(), 12);
         due(22, "out", turns.depth(0, 11), -1);
+        due(29, "0 by a LIGHT, in HOUR 0 alone", Telling.told(BASE + "pew rest;light 0 1;draught 0 at 1;").deepest(), 0);
         due(29, "0 by a LIGHT", Telling.told(BASE + "pew rest;light 0 1;").deepest(), 0);
         due(29, "none is lit", Telling.told(BASE + "pew rest;").deepest(), -1);
         TaperTalk gone = Telling.told(BASE + "pew rest;pew rest;aisle 0 1;light 0 1;draught 1 at 2;draught 1 at 3;");

@@ -16,6 +16,8 @@ public final class EdgeRowsTest {
         firstWays();
         firstWhere();
         firstByLaw();
+        firstByTurns();
+        eachCallForItself();
         cluesTaken();
         cluesRefused();
         clueAnswers();
@@ -278,6 +280,43 @@ public final class EdgeRowsTest {
         TaperTalk y = Telling.told(text.replace("law 0", "law 2"));
         Telling.row(y, 0, 3, 2, 4);
         first("2 is heard: one added", y, 0, 3, 1, 3, 2);
+    }
+
+    /** From HOUR to HOUR one of two PEWS is put out and hears the other one in the next: as long a way as there is. */
+    private static void firstByTurns() {
+        TaperTalk x = Telling.told("night hours 12 law 0 odds 0;pew turn;pew rest;aisle 0 1;");
+        for (int h = 1; h < 12; h++) x.draught(1 - h % 2, h);
+        Telling.row(x, 0, 1, 2, 3);
+        first("heard twelve times, turned six times", x, 0, 0, 1, 1, 2, 3);
+        first("heard eleven times, turned five times", x, 0, 1, 1, 3, 2, 1);
+    }
+
+    /** What a call answers does not rest on one ahead of it. */
+    private static void eachCallForItself() {
+        String text = "night hours 1 law 0 odds 0;pew rest;pew drop;aisle 0 1;light 0 1 2 3 4 1 2;";
+        TaperTalk ways = Telling.told(text);
+        Telling.row(ways, 0, 4, 3);
+        due(37, "ways() alone", ways.ways(0, 0, 1), 4);
+        TaperTalk letter = Telling.told(text);
+        Telling.row(letter, 0, 4, 3);
+        due(36, "letter() alone", letter.letter(0, 0, 1, 1), 3);
+        Telling.row(letter, 0, 2);
+        due(36, "letter() of another row", letter.letter(0, 0, 1, 0), 2);
+        due(37, "ways() of itself", letter.ways(0, 0, 0), 1);
+        due(37, "ways() of another", letter.ways(0, 0, 1), 4);
+        due(36, "letter() of none", letter.letter(0, 1, 0, 2), -1);
+        TaperTalk leaves = Telling.told(text);
+        leaves.row(0, 0, 0);
+        due(47, "leaves() alone", leaves.leaves(0), 1);
+        TaperTalk ask = Telling.told(text);
+        ask.row(0, 0, 0);
+        for (int i = 0; i < 5; i++) {
+            due(46, "ask() again, six LETTERS", ask.ask(0), 0);
+            due(47, "leaves() again, six LETTERS", ask.leaves(0), 1);
+        }
+        Telling.row(ask, 0, 0, 0, 6);
+        due(47, "leaves() of another row", ask.leaves(0), 1);
+        due(46, "ask() of another row", ask.ask(0), -1);
     }
 
     // ---- promises 45 to 48, terms VI

@@ -25,6 +25,7 @@ public final class EdgeTapeTest {
         tokens();
         everyByte();
         everyPrefix();
+        endOfTape();
         firstByPlace();
         Edge.end("EdgeTapeTest");
     }
@@ -181,7 +182,7 @@ public final class EdgeTapeTest {
 
     private static void noNight() {
         for (String blank : List.of("", " ", "\n", " \n \n  ", " ".repeat(40))) {
-            TaperTalk x = Telling.told(Edge.FIVE);
+            TaperTalk x = Telling.told(Edge.FIVE.replace("law 0", "law 3"));
             x.light(0, 1, 0);
             x.image(0);
             x.row(0, 0, 3);
@@ -519,7 +520,7 @@ public final class EdgeTapeTest {
         due(5, "the byte 94", x.fault(1), 27);
     }
 
-    /** A text cut at any place: a word that is cut is none, at its first byte; else the end can't stand there. */
+    /** A text cut by end() at any place: a word that is cut is none, at its first byte; else the end can't stand there. */
     private static void everyPrefix() {
         String whole = "night hours 1 law 0 odds 0 ; pew rest ;\npew turn;pew drop; pew add 3 ; pew change 2 4; aisle 0 1 ; light 0 1 2 ; draught 1 at 1 ; ";
         for (int n = 0; n <= whole.length(); n++) {
@@ -530,9 +531,46 @@ public final class EdgeTapeTest {
             while (inWord && start > 0 && Character.isLowerCase(whole.charAt(start - 1))) start--;
             int lines = (int) text.chars().filter(c -> c == ';').count();
             boolean ended = said.isEmpty() || said.endsWith(";");
-            if (start < n) faulty(1, text.substring(0, start) + "^" + text.substring(start));
-            else if (ended) fine(text, lines);
-            else faulty(1, text + "^");
+            TaperTalk x = new TaperTalk();
+            Telling.feed(x::feed, whole, '7');
+            x.end(n);
+            boolean taken = ended && start == n;
+            due(4, "cut at " + n, x.night(), taken ? lines : -4);
+            due(5, "cut at " + n, x.fault(0), taken ? 0 : 1);
+            due(5, "cut at " + n + ", at", x.fault(1), taken ? -1 : start);
+        }
+    }
+
+    /** What stands behind the end, and behind the last byte that a TAPE can have, is not read. */
+    private static void endOfTape() {
+        for (String behind : List.of("1", "0", "t", "z", ";", " ", "\n", "#", "pew rest;")) {
+            TaperTalk x = new TaperTalk();
+            String text = "night hours 1 law 0 odds 1";
+            Telling.feed(x::feed, text + behind, '9');
+            x.end(text.length());
+            due(4, "a number at the end, behind it " + behind, x.night(), -4);
+            due(5, "a number at the end, behind it " + behind, x.fault(0), 1);
+            due(5, "a number at the end, behind it " + behind, x.fault(1), text.length());
+            TaperTalk y = new TaperTalk();
+            Telling.feed(y::feed, BASE + "pew rest" + behind, 't');
+            y.end(BASE.length() + 8);
+            due(4, "a word at the end, behind it " + behind, y.night(), -4);
+            due(5, "a word at the end, behind it " + behind, y.fault(1), BASE.length() + 8);
+            TaperTalk z = new TaperTalk();
+            Telling.feed(z::feed, BASE + behind, ' ');
+            z.end(BASE.length());
+            due(4, "a sign at the end, behind it " + behind, z.night(), 1);
+        }
+        for (String last : List.of("pew add 1", "pew rest", "pew change 1", "light", "1", "12")) {
+            TaperTalk x = new TaperTalk();
+            String text = BASE + "pew rest;" + " ".repeat(564 - last.length()) + last;
+            due(4, "600 bytes that end by " + last, Telling.night(x, text), -4);
+            due(5, "600 bytes that end by " + last, x.fault(1), last.startsWith("1") ? 600 - last.length() : 600);
+        }
+        for (String last : List.of("pew add 1;", "pew rest; ", "pew rest;\n", " ", "\n", ";")) {
+            TaperTalk x = new TaperTalk();
+            String text = BASE + "pew rest" + (last.equals(";") ? "" : ";") + " ".repeat((last.equals(";") ? 565 : 564) - last.length()) + last;
+            due(4, "600 bytes that end by " + last, Telling.night(x, text), last.startsWith("pew") ? 3 : 2);
         }
     }
 

@@ -162,6 +162,7 @@ public final class EdgeTrialsTest {
         due(43, "HOUR 2: one fewer", back.gust(2), 0);
         TaperTalk seven = Telling.told(APART + "light 6 1;");
         for (int h = 0; h <= 3; h++) due(43, "the last PEW", seven.gust(h), 6);
+        for (int h = 0; h <= 12; h++) due(43, "seven PEWS, twelve hours: out in HOUR 0, or in the last", Telling.told(Edge.CHAIN).gust(h), h == 0 || h == 12 ? 0 : -1);
         due(43, "no PEWS: none", Telling.told(EMPTY).gust(3), -1);
         due(43, "no PEWS, no such HOUR", Telling.told(EMPTY).gust(4), -2);
         TaperTalk few = Telling.told("night hours 2 law 0 odds 0;pew rest;pew rest;pew rest;pew rest;aisle 1 2;aisle 1 3;light 0 1;light 1 1;");
@@ -198,6 +199,7 @@ public final class EdgeTrialsTest {
         for (int l = 0; l < 4; l++) due(49, "by LAW " + l, x.by(l), 7);
         for (int l : Edge.outside(4)) due(49, "there is none such " + l, x.by(l), -2);
         due(50, "five LETTERS by LAWS 1 and 2: the least", x.law(), 1);
+        due(50, "law() alone", Telling.told(text).law(), 1);
         due(65, "the LAW told stays", x.count(1), 3);
         due(11, "and is kept to", x.letters(2, 2), 1);
         TaperTalk drop = Telling.told(text.replace("pew rest;aisle", "pew drop;aisle"));
@@ -254,6 +256,9 @@ public final class EdgeTrialsTest {
         TaperTalk none = Telling.told(APART);
         for (int p = 0; p < 7; p++) due(53, "the one that is lit", none.replies(p), p);
         for (int p : Edge.outside(7)) due(53, "there is none such " + p, none.replies(p), -2);
+        TaperTalk all = Telling.told(STAR.replace("hours 1", "hours 3"));
+        for (int p = 0; p < 7; p++) due(53, "all seven are lit at last, whichever it is: the first", all.replies(p), 0);
+        due(51, "all seven", all.rector(), 7);
         due(53, "no PEWS", Telling.told(EMPTY).replies(0), -2);
         due(53, "nothing to gain: the first", Telling.told(BASE + "pew rest;pew rest;aisle 0 1;").replies(1), 0);
         due(53, "out anyhow: the first", Telling.told(BASE + "pew rest;pew rest;draught 1 at 0;").replies(1), 0);

@@ -11,7 +11,7 @@ import java.util.TreeSet;
 
 /** Long runs of calls by chance (from fixed seeds), each answer against the Oracle's. */
 public final class OracleTest {
-    private static final int CALLS = 500;
+    private static final int CALLS = 470;
     private final Random random;
     private final TaperTalk talk = new TaperTalk();
     private final Oracle oracle = new Oracle();
